@@ -1,20 +1,21 @@
+import java.util.ArrayList;
+import java.util.List;
+
 /** A row of bytes written out by hand, field by field, after the document's words. */
 final class Bytes {
-    private int[] bytes = new int[0];
+    private final List<Integer> bytes = new ArrayList<>();
 
     int length() {
-        return bytes.length;
+        return bytes.size();
     }
 
     int at(int k) {
-        return bytes[k];
+        return bytes.get(k);
     }
 
     Bytes one(int... values) {
-        int old = bytes.length;
-        bytes = java.util.Arrays.copyOf(bytes, old + values.length);
-        for (int i = 0; i < values.length; i++) {
-            bytes[old + i] = values[i] & 255;
+        for (int v : values) {
+            bytes.add(v & 255);
         }
         return this;
     }
@@ -58,7 +59,7 @@ final class Bytes {
     }
 
     Bytes change(int k, int v) {
-        bytes[k] = v & 255;
+        bytes.set(k, v & 255);
         return this;
     }
 
@@ -70,15 +71,15 @@ final class Bytes {
     }
 
     Bytes cut(int n) {
-        bytes = java.util.Arrays.copyOf(bytes, n);
+        bytes.subList(n, bytes.size()).clear();
         return this;
     }
 
     /** Writes the row over a desk's tape, a call for each byte. */
     void putOn(CoreDesk desk) {
         desk.cut(0);
-        for (int k = 0; k < bytes.length; k++) {
-            if (!desk.put(k, bytes[k])) {
+        for (int k = 0; k < length(); k++) {
+            if (!desk.put(k, at(k))) {
                 throw new IllegalStateException("no room for byte " + k);
             }
         }

@@ -10,6 +10,7 @@ public final class CoreTest {
         finds();
         findsInOneRegion();
         findsWhereTheFileHasAnotherOrder();
+        findsInMoreAndFewerRegions();
         callers();
         callersAtEdges();
         callersOfManyFrames();
@@ -172,6 +173,25 @@ public final class CoreTest {
         due.loads("load()", desk, 2);
         due.same("the least", desk.find(99, 0), 72);
         due.same("the other", desk.find(99, 73), 6400);
+    }
+
+    private static void findsInMoreAndFewerRegions() {
+        CoreDesk desk = new CoreDesk();
+        for (int i = 0; i < 6; i++) {
+            desk.map(1024 * i, 1, 0);
+        }
+        desk.pokeFour(1024 * 5 + 8, 77);
+        reload(desk, 6);
+        due.same("in the sixth", desk.find(77, 0), 1024 * 5 + 8);
+        due.same("in none of six", desk.find(78, 0), -1);
+        for (int i = 0; i < 5; i++) {
+            desk.unmap(1024 * i);
+        }
+        desk.pokeFour(1024 * 5 + 8, 79);
+        reload(desk, 1);
+        due.same("in the one", desk.find(79, 0), 1024 * 5 + 8);
+        due.same("in a core that was", desk.find(77, 0), -1);
+        due.same("in a region that was", desk.find(0, 1024 * 5 + 61), -1);
     }
 
     private static void callers() {

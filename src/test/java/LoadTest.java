@@ -85,6 +85,7 @@ public final class LoadTest {
         refused("51 bytes", whole().cut(51), 1, 51);
         refused("51 wrong bytes", new Bytes().zeros(51), 1, 51);
         refused("52 bytes", whole().cut(52), 1, 52);
+        refused("52 wrong bytes", new Bytes().zeros(52), 2, 0);
         refused("a program header short of a byte", whole().cut(147), 1, 147);
         refused("program headers alone", whole().cut(148), 1, NOTES_ENTRY + 4);
         refused("notes, no regions", whole().cut(260), 1, FIRST_ENTRY + 4);
@@ -214,6 +215,9 @@ public final class LoadTest {
         wrongFour("a byte of the first", SECOND_ENTRY + 4, SECOND - 1, 4);
         Bytes last = whole().changeFour(FIRST_ENTRY + 4, SECOND).changeFour(SECOND_ENTRY + 4, SECOND - 63);
         refused("its last byte in the first", last, 4, SECOND_ENTRY + 4);
+        Bytes one = whole().changeFour(NOTES_ENTRY + 4, FIRST + 63);
+        one.changeFour(NOTES_ENTRY + 16, 1).changeFour(NOTES_ENTRY + 20, 1);
+        refused("the notes' one byte", one, 4, FIRST_ENTRY + 4);
         Bytes none = whole().changeFour(SECOND_ENTRY + 16, 0);
         loaded("none inside another", none.changeFour(SECOND_ENTRY + 4, FIRST + 8), 2);
         loaded("none in the notes", none.changeFour(SECOND_ENTRY + 4, NOTES + 8), 2);
