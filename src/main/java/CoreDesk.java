@@ -202,7 +202,8 @@ public final class CoreDesk {
 
     private void takeCore() {
         coreMemory.clear();
-        for (int entry = 1; entry < check.entries(); entry++) {
+        int end = check.entries();
+        for (int entry = 1; entry < end; entry++) {
             int address = check.entryField(entry, ADDRESS);
             coreMemory.addRegion(address, check.entryField(entry, IN_MEMORY), check.entryField(entry, FLAGS));
             coreMemory.fillRegion(address, tape, check.entryField(entry, WHERE), check.entryField(entry, IN_FILE));

@@ -8,7 +8,8 @@ import java.util.TreeSet;
 public final class FaceTest {
     private static final Due due = new Due();
     private static final int[] EDGES = {
-        -2147483648, -2147483647, -65, -64, -4, -1, 0, 1, 3, 7, 8, 16, 63, 64, 67108864, 2147483584, 2147483646, 2147483647};
+        -2147483648, -2147483647, -65, -64, -4, -1, 0, 1, 3, 7, 8, 16, 63, 64,
+        67108864, 2147483584, 2147483646, 2147483647};
 
     public static void main(String[] args) throws Exception {
         members();
