@@ -74,20 +74,4 @@ final class Bytes {
         bytes.subList(n, bytes.size()).clear();
         return this;
     }
-
-    /** Writes the row over a desk's tape, a call for each byte. */
-    void putOn(CoreDesk desk) {
-        desk.cut(0);
-        for (int k = 0; k < length(); k++) {
-            if (!desk.put(k, at(k))) {
-                throw new IllegalStateException("no room for byte " + k);
-            }
-        }
-    }
-
-    CoreDesk onNewDesk() {
-        CoreDesk desk = new CoreDesk();
-        putOn(desk);
-        return desk;
-    }
 }

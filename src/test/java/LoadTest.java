@@ -1,37 +1,40 @@
-/** Promises 13 and 14: files whole and spoilt, what is WRONG with them, where, and in which order. */
-public final class LoadTest {
-    private static final Due due = new Due();
+/** What is WRONG with a tape's header and program headers, where it is told, and in which order. */
+public final class LoadTest extends Sentences {
+    private static final int LEAST = -2147483648;
+    private static final int LAST = 2147483647;
+    private static final int LAST_PAGE = 2147483584;
 
-    // Of the file that whole() makes: three program headers, two notes, two regions.
+    // Of the tape that whole() makes: three program headers, two notes, two regions.
     private static final int NOTES_ENTRY = 52;
     private static final int FIRST_ENTRY = 84;
     private static final int SECOND_ENTRY = 116;
+    private static final int[] REGION_ENTRIES = {FIRST_ENTRY, SECOND_ENTRY};
     private static final int NOTES = 148;
     private static final int FIRST = 260;
     private static final int SECOND = 324;
     private static final int END = 388;
 
+    // Of a program header.
+    private static final int WHERE = 4;
+    private static final int ADDRESS = 8;
+    private static final int ZERO = 12;
+    private static final int IN_FILE = 16;
+    private static final int IN_MEMORY = 20;
+    private static final int FLAGS = 24;
+    private static final int ALIGNMENT = 28;
+
     private static final int[] HEADER_FIELDS = {16, 18, 20, 24, 28, 32, 36, 40, 42, 44, 46, 48, 50, 52};
 
     public static void main(String[] args) {
-        wholeFile();
-        tapeTooShort();
-        headerBytes();
-        countOfEntries();
-        fieldsOfNotesEntry();
-        fieldsOfRegionEntries();
-        beyondTheTape();
-        bytesInCommon();
-        addressesInCommon();
-        orderOfWrongs();
-        noteHeads();
-        noteSizes();
-        threadNotes();
-        otherNotes();
-        placesAreFree();
-        errorsOfTheLatest();
-        coreStays();
-        due.end();
+        new LoadTest().run();
+    }
+
+    @Override
+    void tests() {
+        header();
+        fields();
+        places();
+        order();
     }
 
     private static Bytes whole() {
@@ -42,393 +45,536 @@ public final class LoadTest {
         return b;
     }
 
-    private static void refused(String name, Bytes tape, int kind, int place) {
-        due.refuses(name, tape.onNewDesk(), kind, place);
+    private void wrong(String name, Bytes tape, int kind, int place) {
+        Desk desk = desk(name);
+        desk.tape(tape);
+        desk.wrong(kind, place);
+        desk.core(0).none();
     }
 
-    private static void loaded(String name, Bytes tape, int regions) {
-        due.loads(name, tape.onNewDesk(), regions);
+    private void right(String name, Bytes tape, int regions) {
+        Desk desk = desk(name);
+        desk.tape(tape);
+        desk.right(regions);
     }
 
-    private static void wrongFour(String name, int at, int v, int kind) {
-        refused(name + " " + v, whole().changeFour(at, v), kind, at);
-    }
-
-    private static void rightFour(String name, int at, int v) {
-        loaded(name + " " + v, whole().changeFour(at, v), 2);
-    }
-
-    private static void wholeFile() {
-        due.same("the file's length", whole().length(), END);
-        CoreDesk desk = whole().onNewDesk();
-        due.loads("whole", desk, 2);
-        due.same("core(0)", desk.core(0), 2);
-        due.same("core(1)", desk.core(1), 2);
-        due.same("peek(128)", desk.peek(128), 1);
-        due.same("peek(131)", desk.peek(131), 4);
-        due.same("peek(192)", desk.peek(192), 0);
-        due.same("peek(255)", desk.peek(255), 0);
-        due.same("peek(256)", desk.peek(256), -1);
-        due.same("peek(4159)", desk.peek(4159), 8);
-        for (int r = 0; r < 8; r++) {
-            due.register(desk, 0, r, 1 + r);
+    /** Of a whole tape one field alone is changed, and it is told at the field. */
+    private void wrongField(int kind, int entry, int field, int... values) {
+        for (int v : values) {
+            wrong("field at " + (entry + field) + " is " + v, whole().changeFour(entry + field, v), kind, entry + field);
         }
-        due.register(desk, 1, 0, -1);
-        due.register(desk, 1, 8, 11);
-        due.loads("the tape stays", desk, 2);
-        due.yes("behind the file", desk.put(END, 9));
-        due.loads("more than the file", desk, 2);
     }
 
-    private static void tapeTooShort() {
-        refused("no byte", new Bytes(), 1, 0);
-        refused("51 bytes", whole().cut(51), 1, 51);
-        refused("51 wrong bytes", new Bytes().zeros(51), 1, 51);
-        refused("52 bytes", whole().cut(52), 1, 52);
-        refused("52 wrong bytes", new Bytes().zeros(52), 2, 0);
-        refused("a program header short of a byte", whole().cut(147), 1, 147);
-        refused("program headers alone", whole().cut(148), 1, NOTES_ENTRY + 4);
-        refused("notes, no regions", whole().cut(260), 1, FIRST_ENTRY + 4);
-        refused("a byte short", whole().cut(END - 1), 1, SECOND_ENTRY + 4);
+    private void rightField(int entry, int field, int... values) {
+        for (int v : values) {
+            right("field at " + (entry + field) + " is " + v, whole().changeFour(entry + field, v), 2);
+        }
     }
 
-    private static void headerBytes() {
+    private void header() {
+        sentence("1 the tape has less than 52 bytes (told at its end)", this::lessThanAHeader);
+        sentence("2 a byte of the header that is not as above (at its first byte)", this::headerBytes);
+        sentence("2 a field of the header that is not as above (at its first byte)", this::headerFields);
+        sentence("2 the first byte or field that is not as above", this::headerFirst);
+        sentence("2 there must be 1 to 7 program headers", this::headerCounts);
+        sentence("1 the program headers go beyond the tape (at the tape's end)", this::programHeadersBeyond);
+    }
+
+    private void lessThanAHeader() {
+        Desk desk = desk();
+        desk.dump().is(84);
+        desk.copy().is(84);
+        for (int n = 51; n >= 0; n--) {
+            desk.cut(n).yes();
+            desk.wrong(1, n);
+        }
+        wrong("51 wrong bytes", new Bytes().zeros(51), 1, 51);
+        wrong("52 wrong bytes", new Bytes().zeros(52), 2, 0);
+        wrong("51 bytes, the first one wrong", whole().change(0, 0).cut(51), 1, 51);
+        wrong("52 bytes, the first one wrong", whole().change(0, 0).cut(52), 2, 0);
+        wrong("52 bytes, the last one wrong", whole().change(51, 1).cut(52), 2, 50);
+    }
+
+    private void headerBytes() {
         for (int k = 0; k < 16; k++) {
-            refused("header byte " + k, whole().change(k, whole().at(k) + 1), 2, k);
-            refused("header byte " + k + " with bit 7", whole().change(k, whole().at(k) ^ 128), 2, k);
+            int due = whole().at(k);
+            int[] others = {due + 1, due - 1, due ^ 128, 255 - due};
+            for (int other : others) {
+                wrong("byte " + k + " is " + other, whole().change(k, other), 2, k);
+            }
         }
+        right("no byte is another", whole(), 2);
+    }
+
+    private void headerFields() {
         for (int f = 0; f + 1 < HEADER_FIELDS.length; f++) {
             for (int k = HEADER_FIELDS[f]; k < HEADER_FIELDS[f + 1]; k++) {
-                refused("header byte " + k, whole().change(k, whole().at(k) ^ 64), 2, HEADER_FIELDS[f]);
+                int due = whole().at(k);
+                int[] others = {due ^ 8, due ^ 128, 255 - due};
+                for (int other : others) {
+                    wrong("byte " + k + " is " + other, whole().change(k, other), 2, HEADER_FIELDS[f]);
+                }
             }
         }
-        refused("two of them", whole().change(31, 1).change(5, 2), 2, 5);
-        refused("header before headers", whole().change(50, 1).cut(60), 2, 50);
-        refused("headers before their fields", whole().change(NOTES_ENTRY, 9).cut(147), 1, 147);
     }
 
-    private static void countOfEntries() {
-        refused("none", whole().change(44, 0), 2, 44);
-        refused("eight", whole().change(44, 8), 2, 44);
-        refused("256 more", whole().change(45, 1), 2, 44);
-        refused("32768 more", whole().change(45, 128), 2, 44);
-        refused("seven, where there are three", whole().change(44, 7), 3, NOTES_ENTRY + 4);
-        refused("seven beyond the tape", whole().change(44, 7).cut(275), 1, 275);
-        loaded("one", new Bytes().header(1).notesEntry(84, 0), 0);
-        Bytes seven = new Bytes().header(7).notesEntry(276, 0);
-        for (int i = 5; i >= 0; i--) {
-            seven.regionEntry(276, 1024 * i, 0, 1024, i);
+    private void headerFirst() {
+        Bytes b = whole();
+        for (int f = HEADER_FIELDS.length - 2; f >= 0; f--) {
+            b.change(HEADER_FIELDS[f], 99);
+            wrong("all from field " + f + " on", b, 2, HEADER_FIELDS[f]);
         }
-        loaded("seven", seven, 6);
+        for (int k = 15; k >= 0; k--) {
+            b.change(k, 99);
+            wrong("all from byte " + k + " on", b, 2, k);
+        }
     }
 
-    private static void fieldsOfNotesEntry() {
-        for (int k = 0; k < 32; k++) {
-            if (k / 4 == 1) {
-                continue;
+    private static Bytes regionsWithoutBytes(int programHeaders) {
+        int end = 52 + 32 * programHeaders;
+        Bytes b = new Bytes().header(programHeaders).notesEntry(end, 0);
+        for (int i = 1; i < programHeaders; i++) {
+            b.regionEntry(end, 1024 * (8 - i), 0, 1024, i);
+        }
+        return b;
+    }
+
+    private void headerCounts() {
+        int[] none = {0, 8, 9, 255, 256, 257, 263, 512 + 3, 32768 + 3, 65535};
+        for (int count : none) {
+            wrong(count + " program headers", whole().change(44, count).change(45, count >> 8), 2, 44);
+        }
+        for (int count = 1; count <= 7; count++) {
+            right(count + " program headers", regionsWithoutBytes(count), count - 1);
+        }
+        Bytes eight = new Bytes().header(8).notesEntry(308, 0);
+        for (int i = 0; i < 7; i++) {
+            eight.regionEntry(308, 64 * i, 0, 64, 0);
+        }
+        wrong("eight whole ones", eight, 2, 44);
+        wrong("none at all", new Bytes().header(0), 2, 44);
+    }
+
+    private void programHeadersBeyond() {
+        for (int count = 1; count <= 7; count++) {
+            int end = 52 + 32 * count;
+            wrong(count + ", a byte short", regionsWithoutBytes(count).cut(end - 1), 1, end - 1);
+            right(count + ", whole", regionsWithoutBytes(count), count - 1);
+            wrong(count + ", none there", new Bytes().header(count), 1, 52);
+            wrong(count + ", a byte there", new Bytes().header(count).zeros(1), 1, 53);
+            wrong(count + ", a byte short, and all of them wrong",
+                new Bytes().header(count).zeros(32 * count - 1), 1, end - 1);
+            wrong(count + ", wrong alone", new Bytes().header(count).zeros(32 * count), 3, 52);
+        }
+        wrong("seven of which three are there", whole().change(44, 7).cut(275), 1, 275);
+    }
+
+    private void fields() {
+        sentence("3 kind 4 of the first one, 1 of others", this::kinds);
+        sentence("3 where: not below the end of the program headers", this::wheres);
+        sentence("3 address: 0 of notes", this::addressOfNotes);
+        sentence("3 address: of regions a multiple of 64, not below 0", this::addressesOfRegions);
+        sentence("3 the field behind the address is 0", this::zeroFields);
+        sentence("3 bytes in the file: not below 0", this::inFileBelowZero);
+        sentence("3 bytes in the file: of regions a multiple of 64", this::inFileMultiples);
+        sentence("3 bytes in the file: of regions at most 1024", this::inFileMost);
+        sentence("3 in memory: of notes those in the file", this::inMemoryOfNotes);
+        sentence("3 in memory: of regions a multiple of 64", this::inMemoryMultiples);
+        sentence("3 in memory: of regions 64 .. 1024", this::inMemoryLeastAndMost);
+        sentence("3 in memory: of regions not less than those in the file", this::inMemoryNotLess);
+        sentence("3 in memory: of regions not beyond the last address", this::inMemoryLastAddress);
+        sentence("3 flags: 0 of notes, 0 .. 7 of regions", this::flagFields);
+        sentence("3 4 or 64", this::alignments);
+        sentence("3 field by field (at its first byte)", this::fieldByField);
+        sentence("3 each of a field's four bytes counts", this::fieldBytes);
+    }
+
+    private void kinds() {
+        wrongField(3, NOTES_ENTRY, 0, 1, 0, 3, 5, -1, 260, 4 + (1 << 16), 4 + LEAST);
+        for (int entry : REGION_ENTRIES) {
+            wrongField(3, entry, 0, 4, 0, 2, -1, 257, 1 + (1 << 16), 1 + LEAST);
+        }
+    }
+
+    private void wheres() {
+        int[] entries = {NOTES_ENTRY, FIRST_ENTRY, SECOND_ENTRY};
+        for (int entry : entries) {
+            wrongField(3, entry, WHERE, NOTES - 1, NOTES - 4, 116, 52, 1, 0, -1, LEAST, LEAST + NOTES);
+        }
+        for (int count = 1; count <= 7; count++) {
+            int end = 52 + 32 * count;
+            right("notes at the end of " + count, regionsWithoutBytes(count), count - 1);
+            wrong("notes a byte before it", regionsWithoutBytes(count).changeFour(56, end - 1), 3, 56);
+            if (count > 1) {
+                int last = end - 32 + WHERE;
+                wrong("a region a byte before it", regionsWithoutBytes(count).changeFour(last, end - 1), 3, last);
             }
-            int at = NOTES_ENTRY + k;
-            int field = k / 4 == 4 ? (k % 4 == 3 ? 4 : 5) : k / 4;
-            refused("notes' entry byte " + k, whole().change(at, whole().at(at) ^ 128), 3, NOTES_ENTRY + 4 * field);
         }
-        wrongFour("notes: kind", NOTES_ENTRY, 1, 3);
-        wrongFour("notes: where", NOTES_ENTRY + 4, NOTES - 1, 3);
-        wrongFour("notes: where", NOTES_ENTRY + 4, 0, 3);
-        wrongFour("notes: where", NOTES_ENTRY + 4, -1, 3);
-        wrongFour("notes: where", NOTES_ENTRY + 4, -2147483648, 3);
-        wrongFour("notes: address", NOTES_ENTRY + 8, 64, 3);
-        wrongFour("notes: zero", NOTES_ENTRY + 12, 1, 3);
-        wrongFour("notes: in the file", NOTES_ENTRY + 16, -1, 3);
-        wrongFour("notes: in memory", NOTES_ENTRY + 20, 56, 3);
-        wrongFour("notes: in memory", NOTES_ENTRY + 20, 0, 3);
-        wrongFour("notes: flags", NOTES_ENTRY + 24, 4, 3);
-        wrongFour("notes: alignment", NOTES_ENTRY + 28, 64, 3);
-        Bytes great = whole().changeFour(NOTES_ENTRY + 16, 2147483647).changeFour(NOTES_ENTRY + 20, 2147483647);
-        refused("notes: more than can be", great, 1, NOTES_ENTRY + 4);
-        Bytes less = whole().changeFour(NOTES_ENTRY + 16, -4).changeFour(NOTES_ENTRY + 20, -4);
-        refused("notes: below 0 in both", less, 3, NOTES_ENTRY + 16);
+        right("a region with bytes at it", new Bytes().header(2).notesEntry(180, 0)
+            .regionEntry(116, 0, 64, 64, 0).zeros(64), 1);
+        wrong("a region with bytes before it", new Bytes().header(2).notesEntry(180, 0)
+            .regionEntry(115, 0, 64, 64, 0).zeros(64), 3, 88);
     }
 
-    private static void fieldsOfRegionEntries() {
-        int[] entries = {FIRST_ENTRY, SECOND_ENTRY};
-        for (int at : entries) {
-            wrongFour("region: kind", at, 4, 3);
-            wrongFour("region: kind", at, 0, 3);
-            wrongFour("region: kind", at, 257, 3);
-            wrongFour("region: where", at + 4, NOTES - 1, 3);
-            wrongFour("region: where", at + 4, -1, 3);
-            wrongFour("region: where", at + 4, -2147483648, 3);
-            wrongFour("region: address", at + 8, 1, 3);
-            wrongFour("region: address", at + 8, 32, 3);
-            wrongFour("region: address", at + 8, -64, 3);
-            wrongFour("region: address", at + 8, -2147483648, 3);
-            wrongFour("region: address", at + 8, 2147483647, 3);
-            wrongFour("region: zero", at + 12, 1, 3);
-            wrongFour("region: zero", at + 12, -2147483648, 3);
-            wrongFour("region: in the file", at + 16, -64, 3);
-            wrongFour("region: in the file", at + 16, 1, 3);
-            wrongFour("region: in the file", at + 16, 63, 3);
-            wrongFour("region: in the file", at + 16, 1088, 3);
-            wrongFour("region: in the file", at + 16, -2147483648, 3);
-            wrongFour("region: in memory", at + 20, 0, 3);
-            wrongFour("region: in memory", at + 20, 65, 3);
-            wrongFour("region: in memory", at + 20, 1088, 3);
-            wrongFour("region: in memory", at + 20, -64, 3);
-            wrongFour("region: in memory", at + 20, -2147483648, 3);
-            wrongFour("region: flags", at + 24, 8, 3);
-            wrongFour("region: flags", at + 24, -1, 3);
-            wrongFour("region: alignment", at + 28, 4, 3);
-            wrongFour("region: alignment", at + 28, 0, 3);
-            rightFour("region: address", at + 8, 2147483520);
-            rightFour("region: in the file", at + 16, 0);
-            rightFour("region: in memory", at + 20, 1024);
-            rightFour("region: flags", at + 24, 0);
-            rightFour("region: flags", at + 24, 7);
-        }
-        refused("less in memory", whole().changeFour(SECOND_ENTRY + 16, 128), 3, SECOND_ENTRY + 20);
-        refused("1024 in the file", whole().changeFour(SECOND_ENTRY + 16, 1024), 3, SECOND_ENTRY + 20);
-        refused("beyond the last address", whole().changeFour(FIRST_ENTRY + 8, 2147483584), 3, FIRST_ENTRY + 20);
-        rightFour("the last page", SECOND_ENTRY + 8, 2147483584);
-        Bytes none = whole().changeFour(FIRST_ENTRY + 16, 0).changeFour(FIRST_ENTRY + 20, 0);
-        refused("none in memory", none, 3, FIRST_ENTRY + 20);
+    private void addressOfNotes() {
+        wrongField(3, NOTES_ENTRY, ADDRESS, 1, 64, -1, -64, 256, LAST, LEAST, LAST_PAGE);
     }
 
-    private static void beyondTheTape() {
-        wrongFour("notes beyond", NOTES_ENTRY + 4, END - 111, 1);
-        wrongFour("notes beyond", NOTES_ENTRY + 4, 2147483647, 1);
-        wrongFour("region beyond", FIRST_ENTRY + 4, END - 63, 1);
-        wrongFour("region beyond", FIRST_ENTRY + 4, 2147483647, 1);
-        Bytes none = whole().changeFour(FIRST_ENTRY + 16, 0);
-        loaded("none at the end", none.changeFour(FIRST_ENTRY + 4, END), 2);
-        refused("none beyond", none.changeFour(FIRST_ENTRY + 4, END + 1), 1, FIRST_ENTRY + 4);
-        refused("none beyond", none.changeFour(FIRST_ENTRY + 4, 2147483647), 1, FIRST_ENTRY + 4);
+    private void addressesOfRegions() {
+        for (int entry : REGION_ENTRIES) {
+            wrongField(3, entry, ADDRESS, 1, 32, 63, 65, 127, 129, LAST, LAST_PAGE - 1, LAST_PAGE + 1);
+            wrongField(3, entry, ADDRESS, -1, -64, -128, LEAST, LEAST + 64);
+            rightField(entry, ADDRESS, 0, 1024, 65536, 1073741824, LAST_PAGE - 64);
+        }
+        rightField(SECOND_ENTRY, ADDRESS, LAST_PAGE);
+    }
+
+    private void zeroFields() {
+        int[] entries = {NOTES_ENTRY, FIRST_ENTRY, SECOND_ENTRY};
+        for (int entry : entries) {
+            wrongField(3, entry, ZERO, 1, -1, 64, 256, 65536, LEAST);
+        }
+    }
+
+    private void inFileBelowZero() {
+        for (int entry : REGION_ENTRIES) {
+            wrongField(3, entry, IN_FILE, -64, -1024, LEAST, -1);
+            rightField(entry, IN_FILE, 0);
+        }
+        int[] below = {-1, -4, -20, -56, LEAST};
+        for (int n : below) {
+            Bytes b = whole().changeFour(NOTES_ENTRY + IN_FILE, n).changeFour(NOTES_ENTRY + IN_MEMORY, n);
+            wrong("notes of " + n + " bytes", b, 3, NOTES_ENTRY + IN_FILE);
+        }
+        Bytes none = whole().changeFour(NOTES_ENTRY + IN_FILE, 0).changeFour(NOTES_ENTRY + IN_MEMORY, 0);
+        right("notes of 0 bytes", none, 2);
+    }
+
+    private void inFileMultiples() {
+        for (int entry : REGION_ENTRIES) {
+            wrongField(3, entry, IN_FILE, 1, 4, 32, 63, 65, 1023);
+        }
+        right("notes of 20 bytes", new Bytes().header(1).notesEntry(84, 20).noteHead(0, 2), 0);
+    }
+
+    /** A desk whose tape has one region of 16 pages, all in the file. */
+    private Desk sixteenPages(String name) {
+        Desk desk = desk(name);
+        desk.map(0, 16, 0).yes();
+        desk.poke(1023, 1).yes();
+        desk.dump().is(1140);
+        desk.copy().is(1140);
+        return desk;
+    }
+
+    private void inFileMost() {
+        Desk desk = sixteenPages("1024 in the file");
+        desk.right(1);
+        desk.peek(1023).is(1);
+        desk = sixteenPages("1088 in the file");
+        for (int k = 0; k < 64; k++) {
+            desk.put(1140 + k, 2).yes();
+        }
+        desk.right(1);
+        desk.putFour(FIRST_ENTRY + IN_FILE, 1088);
+        desk.wrong(3, FIRST_ENTRY + IN_FILE);
+        desk.putFour(FIRST_ENTRY + IN_MEMORY, 1088);
+        desk.wrong(3, FIRST_ENTRY + IN_FILE);
+        for (int entry : REGION_ENTRIES) {
+            wrongField(3, entry, IN_FILE, 1025, 1088, 2048, LAST, LAST_PAGE);
+        }
+        desk = sixteenPages("notes of more than 1024");
+        Bytes notes = new Bytes().header(1).notesEntry(84, 1056).noteHead(1036, 9);
+        for (int k = 0; k < notes.length(); k++) {
+            desk.put(k, notes.at(k)).yes();
+        }
+        desk.right(0);
+    }
+
+    private void inMemoryOfNotes() {
+        wrongField(3, NOTES_ENTRY, IN_MEMORY, 111, 113, 0, 56, 168, -112, LEAST + 112, 112 + 256);
+        Bytes none = new Bytes().header(1).notesEntry(84, 0);
+        right("none in both", none, 0);
+        wrong("none in the file alone", none.changeFour(72, 1), 3, 72);
+    }
+
+    private void inMemoryMultiples() {
+        for (int entry : REGION_ENTRIES) {
+            wrongField(3, entry, IN_MEMORY, 65, 96, 127, 129, 1023);
+            rightField(entry, IN_MEMORY, 128, 192, 960);
+        }
+    }
+
+    private void inMemoryLeastAndMost() {
+        for (int entry : REGION_ENTRIES) {
+            wrongField(3, entry, IN_MEMORY, 0, -64, -1024, LEAST, 1025, 1088, 2048, LAST, LAST_PAGE, LEAST + 64);
+            rightField(entry, IN_MEMORY, 64, 1024);
+            Bytes none = whole().changeFour(entry + IN_FILE, 0);
+            wrong("none in the file and in memory", none.changeFour(entry + IN_MEMORY, 0), 3, entry + IN_MEMORY);
+            wrong("none in the file, less in memory", none.changeFour(entry + IN_MEMORY, -64), 3, entry + IN_MEMORY);
+            right("none in the file, a page in memory", none.changeFour(entry + IN_MEMORY, 64), 2);
+        }
+    }
+
+    private void inMemoryNotLess() {
+        for (int entry : REGION_ENTRIES) {
+            Bytes b = whole().changeFour(entry + IN_FILE, 192).changeFour(entry + IN_MEMORY, 128);
+            wrong("a page less in memory", b, 3, entry + IN_MEMORY);
+            b.changeFour(entry + IN_FILE, 1024).changeFour(entry + IN_MEMORY, 960);
+            wrong("a page less than 1024", b, 3, entry + IN_MEMORY);
+        }
+        Bytes two = new Bytes().header(2).notesEntry(244, 0).regionEntry(116, 0, 128, 128, 0).zeros(128);
+        right("as many in both", two, 1);
+        wrong("a page less", two.changeFour(FIRST_ENTRY + IN_MEMORY, 64), 3, FIRST_ENTRY + IN_MEMORY);
+        right("a page more", two.changeFour(FIRST_ENTRY + IN_MEMORY, 192), 1);
+    }
+
+    private void inMemoryLastAddress() {
+        for (int pages = 1; pages <= 16; pages++) {
+            Bytes b = whole().changeFour(SECOND_ENTRY + IN_MEMORY, 64 * pages);
+            right(pages + " last pages", b.changeFour(SECOND_ENTRY + ADDRESS, LAST - 64 * pages + 1), 2);
+            if (pages > 1) {
+                b.changeFour(SECOND_ENTRY + ADDRESS, LAST - 64 * pages + 1 + 64);
+                wrong(pages + " pages, one of them beyond", b, 3, SECOND_ENTRY + IN_MEMORY);
+                b.changeFour(SECOND_ENTRY + ADDRESS, LAST_PAGE);
+                wrong(pages + " pages, all but one beyond", b, 3, SECOND_ENTRY + IN_MEMORY);
+            }
+        }
+    }
+
+    private void flagFields() {
+        wrongField(3, NOTES_ENTRY, FLAGS, 1, 4, 7, 8, -1, 256, LEAST);
+        for (int entry : REGION_ENTRIES) {
+            wrongField(3, entry, FLAGS, -1, 8, 9, 256, 65536, LAST, LEAST, LEAST + 7);
+            for (int flags = 0; flags <= 7; flags++) {
+                rightField(entry, FLAGS, flags);
+            }
+        }
+    }
+
+    private void alignments() {
+        wrongField(3, NOTES_ENTRY, ALIGNMENT, 64, 0, 3, 5, -4, 260, LEAST + 4);
+        for (int entry : REGION_ENTRIES) {
+            wrongField(3, entry, ALIGNMENT, 4, 0, 63, 65, 128, -64, 320, LEAST + 64);
+        }
+    }
+
+    private void fieldByField() {
+        int[] entries = {NOTES_ENTRY, FIRST_ENTRY, SECOND_ENTRY};
+        for (int entry : entries) {
+            Bytes b = whole();
+            for (int field = ALIGNMENT; field >= 0; field -= 4) {
+                b.changeFour(entry + field, -1);
+                wrong("all fields from " + (entry + field) + " on", b, 3, entry + field);
+            }
+        }
+    }
+
+    private void fieldBytes() {
+        int[] entries = {NOTES_ENTRY, FIRST_ENTRY, SECOND_ENTRY};
+        for (int entry : entries) {
+            for (int k = 0; k < 32; k++) {
+                int field = k / 4 * 4;
+                // A changed "where" or address may be right, or wrong in another way.
+                if (field == WHERE || entry != NOTES_ENTRY && field == ADDRESS) {
+                    continue;
+                }
+                // The number in the file alone may grow; then it is no more the one in memory.
+                boolean grows = entry == NOTES_ENTRY && field == IN_FILE && k % 4 != 3;
+                int told = entry + (grows ? IN_MEMORY : field);
+                wrong("byte " + (entry + k), whole().change(entry + k, whole().at(entry + k) ^ 129), 3, told);
+            }
+        }
+    }
+
+    private void places() {
+        sentence("1 where its bytes are and how many together are beyond the tape", this::bytesBeyond);
+        sentence("1 beyond the tape: together they wrap round", this::bytesBeyondWithWrap);
+        sentence("1 beyond the tape: of none, too", this::noBytesBeyond);
+        sentence("4 it has bytes of the file in common with one before it", this::commonBytes);
+        sentence("4 with one before it: the notes", this::commonWithNotes);
+        sentence("4 with one before it that has some", this::commonWithNone);
+        sentence("4 with each one before it", this::commonWithEach);
+        sentence("5 it has addresses in common with a region before it", this::commonAddresses);
+        sentence("5 with each region before it", this::commonAddressesWithEach);
+        sentence("5 a region's addresses, not those of the notes", this::noAddressesOfNotes);
+    }
+
+    private void bytesBeyond() {
+        wrongField(1, NOTES_ENTRY, WHERE, END - 111, END - 110, END, END + 1);
+        for (int entry : REGION_ENTRIES) {
+            wrongField(1, entry, WHERE, END - 63, END - 1, END, END + 1, 8192, 65536);
+        }
+        rightField(SECOND_ENTRY, WHERE, END - 64);
+        Bytes shorter = whole().cut(END - 1).changeFour(FIRST_ENTRY + IN_FILE, 0);
+        right("a byte less of the tape, a byte less where", shorter.changeFour(SECOND_ENTRY + WHERE, SECOND - 1), 2);
+        wrong("a byte less of the tape", whole().cut(END - 1), 1, SECOND_ENTRY + WHERE);
+        wrong("a region's bytes less", whole().cut(SECOND), 1, SECOND_ENTRY + WHERE);
+        wrong("and a byte of the other", whole().cut(SECOND - 1), 1, FIRST_ENTRY + WHERE);
+        wrong("both regions' bytes less", whole().cut(FIRST), 1, FIRST_ENTRY + WHERE);
+        wrong("and a byte of the notes", whole().cut(FIRST - 1), 1, NOTES_ENTRY + WHERE);
+        wrong("no byte behind the program headers", whole().cut(NOTES), 1, NOTES_ENTRY + WHERE);
+        Bytes notes = new Bytes().header(1).notesEntry(84, 20).noteHead(0, 2);
+        right("notes to the tape's end", notes, 0);
+        wrong("notes a byte beyond", notes.cut(103), 1, 56);
+    }
+
+    private void bytesBeyondWithWrap() {
+        wrongField(1, NOTES_ENTRY, WHERE, LAST, LAST - 111, LAST - 112);
+        for (int entry : REGION_ENTRIES) {
+            wrongField(1, entry, WHERE, LAST, LAST - 63, LAST - 64);
+        }
+        int[] many = {LAST, LAST - NOTES, LAST - NOTES + 1, 1 << 30};
+        for (int n : many) {
+            Bytes b = whole().changeFour(NOTES_ENTRY + IN_FILE, n).changeFour(NOTES_ENTRY + IN_MEMORY, n);
+            wrong("notes of " + n + " bytes", b, 1, NOTES_ENTRY + WHERE);
+            wrong("and at the last place", b.changeFour(NOTES_ENTRY + WHERE, LAST), 1, NOTES_ENTRY + WHERE);
+        }
+    }
+
+    private void noBytesBeyond() {
+        for (int entry : REGION_ENTRIES) {
+            Bytes none = whole().changeFour(entry + IN_FILE, 0);
+            right("none at the tape's end", none.changeFour(entry + WHERE, END), 2);
+            wrong("none a byte beyond", none.changeFour(entry + WHERE, END + 1), 1, entry + WHERE);
+            wrong("none at the last place", none.changeFour(entry + WHERE, LAST), 1, entry + WHERE);
+        }
         Bytes noNotes = new Bytes().header(1).notesEntry(85, 0);
-        refused("no notes beyond", noNotes, 1, 56);
-        loaded("no notes at the end", noNotes.zeros(1), 0);
+        wrong("no notes a byte beyond", noNotes, 1, 56);
+        right("no notes at the end", noNotes.zeros(1), 0);
     }
 
-    private static void bytesInCommon() {
-        wrongFour("region in the notes", FIRST_ENTRY + 4, NOTES, 4);
-        wrongFour("region in the notes", FIRST_ENTRY + 4, NOTES + 1, 4);
-        wrongFour("region's first byte in the notes", FIRST_ENTRY + 4, FIRST - 1, 4);
-        wrongFour("the same bytes", SECOND_ENTRY + 4, FIRST, 4);
-        wrongFour("a byte of the first", SECOND_ENTRY + 4, SECOND - 1, 4);
-        Bytes last = whole().changeFour(FIRST_ENTRY + 4, SECOND).changeFour(SECOND_ENTRY + 4, SECOND - 63);
-        refused("its last byte in the first", last, 4, SECOND_ENTRY + 4);
-        Bytes one = whole().changeFour(NOTES_ENTRY + 4, FIRST + 63);
-        one.changeFour(NOTES_ENTRY + 16, 1).changeFour(NOTES_ENTRY + 20, 1);
-        refused("the notes' one byte", one, 4, FIRST_ENTRY + 4);
-        Bytes none = whole().changeFour(SECOND_ENTRY + 16, 0);
-        loaded("none inside another", none.changeFour(SECOND_ENTRY + 4, FIRST + 8), 2);
-        loaded("none in the notes", none.changeFour(SECOND_ENTRY + 4, NOTES + 8), 2);
-        Bytes first = whole().changeFour(FIRST_ENTRY + 16, 0).changeFour(FIRST_ENTRY + 4, SECOND + 8);
-        loaded("one before it without bytes", first, 2);
-        Bytes swapped = whole().changeFour(FIRST_ENTRY + 4, SECOND).changeFour(SECOND_ENTRY + 4, FIRST);
-        loaded("regions' bytes the other way round", swapped, 2);
+    private void commonBytes() {
+        wrongField(4, SECOND_ENTRY, WHERE, FIRST, FIRST + 1, FIRST + 32, SECOND - 1);
+        rightField(SECOND_ENTRY, WHERE, SECOND);
+        Bytes b = whole().changeFour(FIRST_ENTRY + WHERE, SECOND);
+        right("just before the first one's", b.changeFour(SECOND_ENTRY + WHERE, FIRST), 2);
+        for (int shift = 1; shift <= 64; shift += 21) {
+            wrong("from before by " + shift, b.changeFour(SECOND_ENTRY + WHERE, FIRST + shift), 4, SECOND_ENTRY + WHERE);
+        }
+        Bytes round = new Bytes().header(3).notesEntry(148, 0).regionEntry(212, 0, 64, 64, 0);
+        round.regionEntry(148, 64, 192, 192, 0).zeros(192);
+        wrong("round the first one's", round, 4, SECOND_ENTRY + WHERE);
+        Bytes within = new Bytes().header(3).notesEntry(148, 0).regionEntry(148, 0, 192, 192, 0);
+        within.regionEntry(212, 192, 64, 64, 0).zeros(192);
+        wrong("within the first one's", within, 4, SECOND_ENTRY + WHERE);
     }
 
-    private static void addressesInCommon() {
-        wrongFour("the same address", SECOND_ENTRY + 8, 128, 5);
-        wrongFour("the last page of the first", SECOND_ENTRY + 8, 192, 5);
-        rightFour("just behind", SECOND_ENTRY + 8, 256);
-        rightFour("just before", SECOND_ENTRY + 8, 64);
-        Bytes before = whole().changeFour(SECOND_ENTRY + 8, 64).changeFour(SECOND_ENTRY + 20, 128);
-        refused("from before into the first", before, 5, SECOND_ENTRY + 8);
-        Bytes round = whole().changeFour(SECOND_ENTRY + 8, 0).changeFour(SECOND_ENTRY + 20, 1024);
-        refused("round the first", round, 5, SECOND_ENTRY + 8);
-        Bytes last = whole().changeFour(FIRST_ENTRY + 8, 2147483520).changeFour(SECOND_ENTRY + 8, 2147483584);
-        refused("at the last address", last, 5, SECOND_ENTRY + 8);
-        rightFour("address 0 is no notes' address", FIRST_ENTRY + 8, 0);
+    private void commonWithNotes() {
+        for (int entry : REGION_ENTRIES) {
+            wrongField(4, entry, WHERE, NOTES, NOTES + 1, FIRST - 64, FIRST - 1);
+        }
+        Bytes one = new Bytes().header(2).notesEntry(180, 20).regionEntry(116, 0, 64, 64, 0);
+        one.zeros(64).noteHead(0, 2).zeros(64);
+        right("just before the notes", one, 1);
+        wrong("a byte of the notes", one.changeFour(FIRST_ENTRY + WHERE, 117), 4, FIRST_ENTRY + WHERE);
+        wrong("round the notes", one.changeFour(FIRST_ENTRY + WHERE, 158), 4, FIRST_ENTRY + WHERE);
+        wrong("the notes' last byte", one.changeFour(FIRST_ENTRY + WHERE, 199), 4, FIRST_ENTRY + WHERE);
+        right("just behind the notes", one.changeFour(FIRST_ENTRY + WHERE, 200), 1);
     }
 
-    private static void orderOfWrongs() {
+    private void commonWithNone() {
+        Bytes none = whole().changeFour(SECOND_ENTRY + IN_FILE, 0);
+        int[] places = {NOTES, NOTES + 8, FIRST - 1, FIRST, FIRST + 8, SECOND - 1, SECOND};
+        for (int where : places) {
+            right("it has none, at " + where, none.changeFour(SECOND_ENTRY + WHERE, where), 2);
+        }
+        Bytes before = whole().changeFour(FIRST_ENTRY + IN_FILE, 0);
+        int[] placesBefore = {SECOND - 1, SECOND, SECOND + 1, SECOND + 63, END};
+        for (int where : placesBefore) {
+            right("the one before has none, at " + where, before.changeFour(FIRST_ENTRY + WHERE, where), 2);
+        }
+        Bytes noNotes = new Bytes().header(2).notesEntry(117, 0).regionEntry(116, 0, 64, 64, 0).zeros(64);
+        right("there are no notes within it", noNotes, 1);
+    }
+
+    private void commonWithEach() {
+        for (int other = 1; other <= 2; other++) {
+            Bytes b = new Bytes().header(4).notesEntry(180, 0);
+            for (int i = 1; i <= 3; i++) {
+                b.regionEntry(180 + 64 * (i == 3 ? other - 1 : i - 1), 64 * i, 64, 64, 0);
+            }
+            wrong("the third with number " + other, b.zeros(192), 4, 148 + WHERE);
+            b.changeFour(148 + WHERE, 308);
+            right("the third with none", b, 3);
+        }
+    }
+
+    private void commonAddresses() {
+        wrongField(5, SECOND_ENTRY, ADDRESS, 128, 192);
+        rightField(SECOND_ENTRY, ADDRESS, 256, 64);
+        Bytes before = whole().changeFour(SECOND_ENTRY + IN_MEMORY, 128);
+        wrong("from before into the first", before.changeFour(SECOND_ENTRY + ADDRESS, 64), 5, SECOND_ENTRY + ADDRESS);
+        right("from before up to the first", before.changeFour(SECOND_ENTRY + ADDRESS, 0), 2);
+        Bytes round = whole().changeFour(SECOND_ENTRY + ADDRESS, 0).changeFour(SECOND_ENTRY + IN_MEMORY, 1024);
+        wrong("round the first", round, 5, SECOND_ENTRY + ADDRESS);
+        Bytes last = whole().changeFour(FIRST_ENTRY + ADDRESS, LAST_PAGE - 64);
+        wrong("the last page", last.changeFour(SECOND_ENTRY + ADDRESS, LAST_PAGE), 5, SECOND_ENTRY + ADDRESS);
+        right("before the last two", last.changeFour(SECOND_ENTRY + ADDRESS, LAST_PAGE - 128), 2);
+        // Bytes in memory count, whether or not they are in the file.
+        Bytes none = whole().changeFour(FIRST_ENTRY + IN_FILE, 0).changeFour(SECOND_ENTRY + IN_FILE, 0);
+        wrong("without bytes in the file", none.changeFour(SECOND_ENTRY + ADDRESS, 192), 5, SECOND_ENTRY + ADDRESS);
+    }
+
+    private void commonAddressesWithEach() {
+        for (int later = 2; later <= 6; later++) {
+            for (int earlier = 1; earlier < later; earlier++) {
+                int place = 52 + 32 * later + ADDRESS;
+                Bytes b = regionsWithoutBytes(7).changeFour(place, 1024 * (8 - earlier) + 960);
+                wrong("region " + later + " and " + earlier, b, 5, place);
+            }
+        }
+    }
+
+    private void noAddressesOfNotes() {
+        Bytes b = whole().changeFour(FIRST_ENTRY + ADDRESS, 0);
+        right("a region at address 0", b, 2);
+        right("a region at address 64", b.changeFour(FIRST_ENTRY + ADDRESS, 64), 2);
+    }
+
+    private void order() {
+        sentence("WRONG is, in this order, the first of: the header before the program headers", this::headerFirstOfAll);
+        sentence("WRONG is the first of: of one program header 3, then 1, then 4, then 5", this::orderOfOne);
+        sentence("WRONG is the first of: program header by program header", this::entryByEntry);
+        sentence("WRONG is the first of: the program headers before the notes", this::notesLast);
+    }
+
+    private void headerFirstOfAll() {
+        Bytes b = whole().changeFour(NOTES_ENTRY, 9);
+        wrong("a program header's field", b, 3, NOTES_ENTRY);
+        wrong("the program headers' end", b.cut(147), 1, 147);
+        wrong("the header", b.change(50, 1), 2, 50);
+        wrong("the tape's length", b.cut(51), 1, 51);
+    }
+
+    private void orderOfOne() {
+        Bytes b = whole().changeFour(SECOND_ENTRY + ADDRESS, 128);
+        wrong("5 alone", b, 5, SECOND_ENTRY + ADDRESS);
+        wrong("4 before 5", b.changeFour(SECOND_ENTRY + WHERE, FIRST), 4, SECOND_ENTRY + WHERE);
+        Bytes beyond = whole().changeFour(SECOND_ENTRY + ADDRESS, 128).changeFour(FIRST_ENTRY + WHERE, SECOND);
+        wrong("1 before 4 and 5", beyond.changeFour(SECOND_ENTRY + WHERE, SECOND + 1), 1, SECOND_ENTRY + WHERE);
+        wrong("3 before all", beyond.changeFour(SECOND_ENTRY + ALIGNMENT, 0), 3, SECOND_ENTRY + ALIGNMENT);
+    }
+
+    private void entryByEntry() {
+        Bytes b = whole().changeFour(SECOND_ENTRY, 0);
+        wrong("3 of the second region", b, 3, SECOND_ENTRY);
+        wrong("4 of the first region before it", b.changeFour(FIRST_ENTRY + WHERE, NOTES), 4, FIRST_ENTRY + WHERE);
+        wrong("1 of the first region before it", b.changeFour(FIRST_ENTRY + WHERE, END), 1, FIRST_ENTRY + WHERE);
+        wrong("3 of the first region before it", b.changeFour(FIRST_ENTRY + ZERO, 1), 3, FIRST_ENTRY + ZERO);
+        wrong("1 of the notes before it", b.changeFour(NOTES_ENTRY + WHERE, END), 1, NOTES_ENTRY + WHERE);
+        wrong("3 of the notes before it", b.changeFour(NOTES_ENTRY + ALIGNMENT, 0), 3, NOTES_ENTRY + ALIGNMENT);
+        Bytes third = regionsWithoutBytes(4).changeFour(148, 0);
+        wrong("3 of the third region", third, 3, 148);
+        wrong("5 of the second before it", third.changeFour(116 + ADDRESS, 1024 * 7), 5, 116 + ADDRESS);
+    }
+
+    private void notesLast() {
         Bytes b = whole().change(NOTES, 6);
-        refused("notes last", b, 6, NOTES);
-        b.changeFour(SECOND_ENTRY + 8, 128);
-        refused("addresses before notes", b, 5, SECOND_ENTRY + 8);
-        b.changeFour(SECOND_ENTRY + 4, FIRST);
-        refused("bytes before addresses", b, 4, SECOND_ENTRY + 4);
-        b.changeFour(SECOND_ENTRY + 4, END);
-        refused("beyond before bytes", b, 1, SECOND_ENTRY + 4);
-        b.changeFour(SECOND_ENTRY + 28, 0);
-        refused("fields before beyond", b, 3, SECOND_ENTRY + 28);
-        for (int field = 6; field >= 0; field--) {
-            b.changeFour(SECOND_ENTRY + 4 * field, -1);
-            refused("field " + field, b, 3, SECOND_ENTRY + 4 * field);
-        }
-        b.changeFour(FIRST_ENTRY + 4, NOTES);
-        refused("the first's bytes before the second's fields", b, 4, FIRST_ENTRY + 4);
-        b.changeFour(NOTES_ENTRY + 4, END);
-        refused("the notes' before the first's", b, 1, NOTES_ENTRY + 4);
-        b.changeFour(NOTES_ENTRY, 0);
-        refused("the notes' kind", b, 3, NOTES_ENTRY);
-        refused("the tape's end", b.cut(147), 1, 147);
-        refused("the header", b.change(51, 1), 2, 50);
-        refused("the tape", b.cut(51), 1, 51);
-    }
-
-    private static Bytes notesOf(int n) {
-        return new Bytes().header(1).notesEntry(84, n);
-    }
-
-    private static void noteHeads() {
-        refused("a byte of a note", notesOf(1).zeros(1), 6, 84);
-        refused("19 bytes", notesOf(19).noteHead(0, 2), 6, 84);
-        loaded("20 bytes", notesOf(20).noteHead(0, 2), 0);
-        refused("21 bytes", notesOf(21).noteHead(0, 2).zeros(1), 6, 104);
-        refused("19 bytes more", notesOf(75).threadNote(1).noteHead(0, 2), 6, 140);
-        loaded("20 bytes more", notesOf(76).threadNote(1).noteHead(0, 2), 0);
-        for (int k = 0; k < 4; k++) {
-            refused("name's length, byte " + k, notesOf(56).threadNote(1).change(84 + k, 7), 6, 84);
-        }
-        for (int k = 12; k < 20; k++) {
-            refused("name, byte " + k, notesOf(56).threadNote(1).change(84 + k, 7), 6, 84 + k);
-            Bytes second = notesOf(112).threadNote(1).threadNote(2);
-            refused("second name, byte " + k, second.change(140 + k, 7).change(159, 7), 6, 140 + k);
-        }
-        Bytes b = notesOf(56).threadNote(1).changeFour(88, -1);
-        refused("size", b, 6, 88);
-        refused("name before size", b.change(103, 1), 6, 103);
-        refused("length before name", b.change(84, 4), 6, 84);
-        refused("another kind's name", notesOf(20).noteHead(0, 2).change(96, 0), 6, 96);
-    }
-
-    private static void noteSizes() {
-        refused("below 0", notesOf(20).noteHead(-1, 2), 6, 88);
-        refused("least", notesOf(20).noteHead(-2147483648, 2), 6, 88);
-        refused("most", notesOf(20).noteHead(2147483647, 2), 6, 88);
-        refused("2147483644", notesOf(20).noteHead(2147483644, 2), 6, 88);
-        refused("one too many", notesOf(20).noteHead(1, 2), 6, 88);
-        for (int n = 1; n < 4; n++) {
-            refused(n + " without room to four", notesOf(23).noteHead(n, 2).zeros(3), 6, 88);
-            loaded(n + " with room to four", notesOf(24).noteHead(n, 2).zeros(4), 0);
-        }
-        loaded("four", notesOf(24).noteHead(4, 2).zeros(4), 0);
-        refused("five", notesOf(27).noteHead(5, 2).zeros(7), 6, 88);
-        loaded("five to eight", notesOf(28).noteHead(5, 2).zeros(8), 0);
-        refused("a thread short of a byte", notesOf(55).threadNote(1), 6, 88);
-        refused("beyond before the kind's number", notesOf(56).threadNote(1).changeFour(88, 40), 6, 88);
-    }
-
-    private static void threadNotes() {
-        for (int n = 0; n < 48; n++) {
-            Bytes b = notesOf(68).noteHead(n, 1).zeros((n + 3) / 4 * 4);
-            while (b.length() < 152) {
-                b.zeros(1);
-            }
-            if (n != 36) {
-                refused("a thread of " + n + " bytes", b, 6, 88);
-            }
-        }
-        refused("the same id", notesOf(112).threadNote(7).threadNote(7), 6, 160);
-        refused("the first's id", notesOf(168).threadNote(7).threadNote(8).threadNote(7), 6, 216);
-        loaded("three", notesOf(168).threadNote(1).threadNote(2).threadNote(-2147483648), 0);
-        Bytes four = notesOf(224).threadNote(1).threadNote(2).threadNote(3);
-        refused("four", four.threadNote(4), 6, 252);
-        refused("four, an id that was there", four.changeFour(272, 2), 6, 272);
-        refused("four, not of 36 bytes", four.changeFour(256, 32), 6, 256);
-        Bytes fourOther = notesOf(224).threadNote(1).threadNote(2).threadNote(3).threadNote(3).changeFour(260, 2);
-        loaded("the fourth of another kind", fourOther, 0);
-    }
-
-    private static void otherNotes() {
-        Bytes b = notesOf(152).noteHead(3, 0).one(1, 2, 3, 4).threadNote(5, 50, 51);
-        b.noteHead(36, -1).four(5).zeros(32).noteHead(0, 257).cut(236);
-        CoreDesk desk = b.onNewDesk();
-        due.refuses("an end in a note's middle", desk, 6, 220);
-        desk = b.cut(220).zeros(20).changeFour(68, 156).changeFour(72, 156).onNewDesk();
-        due.refuses("a note without its name", desk, 6, 220);
-        Bytes c = notesOf(156).noteHead(3, 0).one(1, 2, 3, 4).threadNote(5, 50, 51);
-        c.noteHead(36, -1).four(5).zeros(32).noteHead(0, 257);
-        desk = c.onNewDesk();
-        due.loads("notes of other kinds", desk, 0);
-        due.same("one thread", desk.core(1), 1);
-        due.register(desk, 0, 0, 50);
-        due.register(desk, 0, 1, 51);
-        due.register(desk, 0, 8, 5);
-    }
-
-    private static void placesAreFree() {
-        Bytes b = new Bytes().header(3).notesEntry(281, 56).regionEntry(217, 1024, 64, 64, 1);
-        b.regionEntry(149, 64, 64, 64, 2).zeros(1).one(21).zeros(67).one(22).zeros(63).threadNote(3, 31);
-        CoreDesk desk = b.onNewDesk();
-        due.loads("gaps, and another order", desk, 2);
-        due.same("peek(1024)", desk.peek(1024), 22);
-        due.same("peek(64)", desk.peek(64), 21);
-        due.same("flags(64)", desk.flags(64), 2);
-        due.register(desk, 0, 0, 31);
-        Bytes many = notesOf(1100).noteHead(1080, 9);
-        CoreDesk big = new CoreDesk();
-        for (int i = 0; i < 2; i++) {
-            big.map(2048 * i, 16, 0);
-            big.poke(2048 * i + 1023, 1);
-        }
-        big.dump();
-        big.copy();
-        for (int k = 0; k < many.length(); k++) {
-            big.put(k, many.at(k));
-        }
-        due.loads("notes of more than 1024 bytes", big, 0);
-    }
-
-    private static void errorsOfTheLatest() {
-        CoreDesk desk = new CoreDesk();
-        due.same("error(0) before a load", desk.error(0), 0);
-        desk.dump();
-        desk.copy();
-        desk.put(16, 5);
-        due.refuses("a wrong header", desk, 2, 16);
-        desk.put(16, 4);
-        due.same("error(0) stays", desk.error(0), 2);
-        due.same("error(1) stays", desk.error(1), 16);
-        due.same("error(2)", desk.error(2), 0);
-        due.same("error(-1)", desk.error(-1), 0);
-        due.same("error(2147483647)", desk.error(2147483647), 0);
-        due.same("error(-2147483648)", desk.error(-2147483648), 0);
-        due.loads("mended", desk, 0);
-        desk.put(0, 0);
-        due.refuses("the first byte", desk, 2, 0);
-    }
-
-    private static void coreStays() {
-        CoreDesk desk = new CoreDesk();
-        desk.map(64, 1, 3);
-        desk.poke(70, 7);
-        desk.thread(5);
-        desk.set(0, 2, 22);
-        desk.dump();
-        due.same("core(0) before a load", desk.core(0), -1);
-        due.refuses("an empty tape", desk, 1, 0);
-        due.same("core(0) after a wrong one", desk.core(0), -1);
-        desk.copy();
-        due.loads("a right one", desk, 1);
-        desk.map(128, 1, 4);
-        desk.thread(6);
-        desk.set(0, 2, 23);
-        desk.poke(70, 8);
-        desk.dump();
-        desk.copy();
-        // Wrong in the last note alone, when all else has been read.
-        desk.put(52 + 96 + 56 + 20, 5);
-        due.refuses("a wrong one", desk, 6, 52 + 96 + 56 + 20);
-        due.same("core(0)", desk.core(0), 1);
-        due.same("core(1)", desk.core(1), 1);
-        due.same("peek(70)", desk.peek(70), 7);
-        due.same("flags(128)", desk.flags(128), -1);
-        due.register(desk, 0, 2, 22);
-        due.noRegister(desk, 1, 8);
-        desk.copy();
-        due.loads("another right one", desk, 2);
-        due.same("core(1) now", desk.core(1), 2);
-        due.same("peek(70) now", desk.peek(70), 8);
-        due.register(desk, 0, 2, 23);
-        desk.put(180, 0);
-        due.same("the core is not the tape", desk.peek(70), 8);
-        desk.unmap(64);
-        desk.unmap(128);
-        desk.dump();
-        desk.copy();
-        due.loads("a smaller one", desk, 0);
-        due.same("peek(70) in a smaller one", desk.peek(70), -1);
+        wrong("the notes alone", b, 6, NOTES);
+        wrong("5 before them", b.changeFour(SECOND_ENTRY + ADDRESS, 128), 5, SECOND_ENTRY + ADDRESS);
+        wrong("4 before them", b.changeFour(SECOND_ENTRY + WHERE, NOTES), 4, SECOND_ENTRY + WHERE);
+        wrong("1 before them", b.changeFour(SECOND_ENTRY + WHERE, END), 1, SECOND_ENTRY + WHERE);
+        wrong("3 before them", b.changeFour(SECOND_ENTRY + FLAGS, 8), 3, SECOND_ENTRY + FLAGS);
     }
 }

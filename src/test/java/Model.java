@@ -196,17 +196,16 @@ final class Model {
         return 1;
     }
 
-    /** Null where the call throws. */
-    Long load() {
+    long load() {
         try {
             core = readTape();
             wrong = 0;
             place = 0;
-            return (long) core.regions.size();
+            return core.regions.size();
         } catch (Wrong e) {
             wrong = e.kind;
             place = e.place;
-            return null;
+            return Answer.THROWN;
         }
     }
 
@@ -237,12 +236,11 @@ final class Model {
         return NONE;
     }
 
-    /** Null where the call throws. */
-    Long register(int t, int r) {
+    long register(int t, int r) {
         if (core == null || t < 0 || t >= core.threads.size() || r < 0 || r > 8) {
-            return null;
+            return Answer.THROWN;
         }
-        return (long) core.threads.get(t)[r];
+        return core.threads.get(t)[r];
     }
 
     long find(int v, int from) {

@@ -8,15 +8,14 @@ public final class ModelTest {
     private static final int[] loads = new int[7];
 
     private final Random random;
-    private final CoreDesk desk = new CoreDesk();
+    private final Desk desk;
     private final Model model = new Model();
-    private final String run;
     private int tapeLength = 0;
     private int entries = 1;
 
     private ModelTest(int seed) {
         random = new Random(seed);
-        run = "run " + seed + ": ";
+        desk = new Desk(due, "run " + seed);
     }
 
     public static void main(String[] args) {
@@ -75,10 +74,6 @@ public final class ModelTest {
         }
     }
 
-    private void same(String call, long got, long want) {
-        due.same(run + call, got, want);
-    }
-
     private void stepProcess() {
         int a = address();
         int v = value();
@@ -87,48 +82,53 @@ public final class ModelTest {
                 int start = rarely() ? a : rarely() ? 2147483584 - 64 * random.nextInt(20) : a & -64;
                 int pages = rarely() ? pick(0, -1, 17, 67108865, edge()) : 1 + random.nextInt(pick(2, 4, 16));
                 int flags = rarely() ? pick(-1, 8, edge()) : random.nextInt(8);
-                same("map(" + start + ", " + pages + ", " + flags + ")",
-                    desk.map(start, pages, flags) ? 1 : 0, model.map(start, pages, flags));
+                desk.map(start, pages, flags).is(model.map(start, pages, flags));
             }
             case 1 -> {
                 int start = random.nextInt(4) == 0 ? a & -64 : a;
-                same("unmap(" + start + ")", desk.unmap(start) ? 1 : 0, model.unmap(start));
+                desk.unmap(start).is(model.unmap(start));
             }
-            case 2 -> same("poke(" + a + ", " + v + ")", desk.poke(a, v) ? 1 : 0, model.poke(a, v));
+            case 2 -> desk.poke(a, v).is(model.poke(a, v));
             case 3 -> {
                 int next = pick(v, a + 8, a + 4, a + 16, a);
-                same("pokeFour(" + a + ", " + next + ")", desk.pokeFour(a, next) ? 1 : 0, model.pokeFour(a, next));
+                desk.pokeFour(a, next).is(model.pokeFour(a, next));
             }
             case 4 -> {
                 int id = random.nextInt(8);
-                same("thread(" + id + ")", desk.thread(id), model.thread(id));
+                desk.thread(id).is(model.thread(id));
             }
             default -> {
                 int t = rarely() ? edge() : random.nextInt(4);
                 int r = rarely() ? edge() : pick(7, random.nextInt(9));
                 int w = pick(v, a);
-                same("set(" + t + ", " + r + ", " + w + ")", desk.set(t, r, w) ? 1 : 0, model.set(t, r, w));
+                desk.set(t, r, w).is(model.set(t, r, w));
             }
         }
     }
 
     private void dumpAndCopy() {
         if (random.nextInt(3) != 0) {
-            same("dump()", desk.dump(), model.dump());
+            desk.dump().is(model.dump());
         }
-        tapeLength = desk.copy();
-        same("copy()", tapeLength, model.copy());
+        tapeLength = (int) model.copy();
+        desk.copy().is(tapeLength);
         entries = Math.max(1, (int) model.byteAt(44));
         int k = rarely() ? edge() : random.nextInt(tapeLength + 2);
-        same("byteAt(" + k + ")", desk.byteAt(k), model.byteAt(k));
+        desk.byteAt(k).is(model.byteAt(k));
     }
 
     private void put(int k, int v) {
-        boolean done = desk.put(k, v);
-        same("put(" + k + ", " + v + ")", done ? 1 : 0, model.put(k, v));
-        if (done && k == tapeLength) {
+        long done = model.put(k, v);
+        desk.put(k, v).is(done);
+        if (done == 1 && k == tapeLength) {
             tapeLength++;
         }
+    }
+
+    private void cut(int n) {
+        long done = model.cut(n);
+        desk.cut(n).is(done);
+        tapeLength = done == 1 ? n : tapeLength;
     }
 
     private void spoil() {
@@ -142,26 +142,14 @@ public final class ModelTest {
             case 5 -> put(notes + random.nextInt(168), pick(0, 1, 5, 36, 37, 40, 67, value()));
             case 6 -> put(notes + 56 * random.nextInt(3) + pick(0, 4, 8, 8, 12, 20), pick(0, 1, 2, 5, 7, 32, 36, 92));
             case 7 -> put(rarely() ? edge() : tapeLength + pick(0, 0, 0, 1), value());
-            default -> {
-                int n = rarely() ? edge() : tapeLength - pick(-1, 0, 1, 64, random.nextInt(tapeLength + 1));
-                boolean done = desk.cut(n);
-                same("cut(" + n + ")", done ? 1 : 0, model.cut(n));
-                tapeLength = done ? n : tapeLength;
-            }
+            default -> cut(rarely() ? edge() : tapeLength - pick(-1, 0, 1, 64, random.nextInt(tapeLength + 1)));
         }
     }
 
     private void load() {
-        Long want = model.load();
-        try {
-            int got = desk.load();
-            same("load() throws", 0, want == null ? 1 : 0);
-            same("load()", got, want == null ? got : want);
-        } catch (IllegalArgumentException e) {
-            same("load() throws", 1, want == null ? 1 : 0);
-        }
-        same("error(0)", desk.error(0), model.error(0));
-        same("error(1)", desk.error(1), model.error(1));
+        desk.load().is(model.load());
+        desk.error(0).is(model.error(0));
+        desk.error(1).is(model.error(1));
         loads[(int) model.error(0)]++;
     }
 
@@ -169,31 +157,22 @@ public final class ModelTest {
         int a = address();
         int t = rarely() ? edge() : random.nextInt(4);
         switch (random.nextInt(8)) {
-            case 0 -> same("error", desk.error(t), model.error(t));
-            case 1 -> same("core(" + t + ")", desk.core(t), model.core(t));
-            case 2 -> same("peek(" + a + ")", desk.peek(a), model.peek(a));
-            case 3 -> same("flags(" + a + ")", desk.flags(a), model.flags(a));
-            case 4 -> askRegister(t, rarely() ? edge() : random.nextInt(10));
+            case 0 -> desk.error(t).is(model.error(t));
+            case 1 -> desk.core(t).is(model.core(t));
+            case 2 -> desk.peek(a).is(model.peek(a));
+            case 3 -> desk.flags(a).is(model.flags(a));
+            case 4 -> {
+                int r = rarely() ? edge() : random.nextInt(10);
+                desk.register(t, r).is(model.register(t, r));
+            }
             case 5, 6 -> {
                 int v = random.nextInt(3) == 0 ? (int) model.peek(a) : value();
-                same("find(" + v + ", " + a + ")", desk.find(v, a), model.find(v, a));
+                desk.find(v, a).is(model.find(v, a));
             }
             default -> {
                 int i = rarely() ? edge() : random.nextInt(5);
-                same("caller(" + t + ", " + i + ")", desk.caller(t, i), model.caller(t, i));
+                desk.caller(t, i).is(model.caller(t, i));
             }
-        }
-    }
-
-    private void askRegister(int t, int r) {
-        Long want = model.register(t, r);
-        String call = "register(" + t + ", " + r + ")";
-        try {
-            int got = desk.register(t, r);
-            same(call + " throws", 0, want == null ? 1 : 0);
-            same(call, got, want == null ? got : want);
-        } catch (IndexOutOfBoundsException e) {
-            same(call + " throws", 1, want == null ? 1 : 0);
         }
     }
 }

@@ -1,0 +1,81 @@
+import java.util.List;
+import java.util.function.Consumer;
+import java.util.function.Function;
+
+/** Tests by the document's sentences: each has a test of its own, named by the sentence's words. */
+abstract class Sentences {
+    final Due due = new Due();
+
+    abstract void tests();
+
+    final void run() {
+        tests();
+        due.end();
+    }
+
+    final void sentence(String words, Runnable test) {
+        due.begin(words);
+        int before = due.asked();
+        try {
+            test.run();
+        } catch (RuntimeException e) {
+            due.fault("the test ended by " + e);
+        }
+        due.yes("the test asks for something", due.asked() > before);
+    }
+
+    final Desk desk() {
+        return desk("");
+    }
+
+    final Desk desk(String name) {
+        return new Desk(due, name);
+    }
+
+    /** Two regions and two threads; its process, file, tape, core and error all differ from one another. */
+    static void busy(Desk desk) {
+        desk.map(64, 1, 3).yes();
+        desk.map(192, 2, 5).yes();
+        desk.pokeFour(64, 200).yes();
+        desk.pokeFour(68, 1000).yes();
+        desk.poke(319, 9).yes();
+        desk.thread(5).is(0);
+        desk.set(0, 7, 64).yes();
+        desk.reload(2);
+        desk.thread(-6).is(1);
+        desk.set(1, 0, 77).yes();
+        desk.poke(64, 201).yes();
+        desk.dump().is(452);
+        desk.set(1, 7, 192).yes();
+        desk.poke(127, 255).yes();
+        desk.put(16, 5).yes();
+        desk.wrong(2, 16);
+        desk.put(16, 4).yes();
+        desk.put(332, 202).yes();
+    }
+
+    /** The call answers as is due, and all that can be seen of the desk is as it was before. */
+    final void unchanged(Consumer<Desk> story, Function<Desk, Answer> call, long answer) {
+        Desk desk = desk();
+        story.accept(desk);
+        Answer got = call.apply(desk);
+        got.is(answer);
+        sameViews("after " + got.call(), View.of(due, story), View.of(due, story.andThen(call::apply)));
+    }
+
+    /** Like unchanged, for loads that throw: what error answers is as it must be, all else as it was. */
+    final void unchangedByLoad(String name, Consumer<Desk> story, int kind, int place) {
+        Desk desk = desk(name);
+        story.accept(desk);
+        desk.wrong(kind, place);
+        List<String> want = View.withoutErrors(due, story);
+        sameViews(name + ", load()", View.withoutErrors(due, story.andThen(Desk::load)), want);
+    }
+
+    private void sameViews(String what, List<String> got, List<String> want) {
+        for (int i = 0; i < want.size() && i < got.size(); i++) {
+            due.text(what, got.get(i), want.get(i));
+        }
+        due.same(what + ", answers", got.size(), want.size());
+    }
+}
