@@ -1,9 +1,5 @@
 /** The questions to a core, promises 15 to 20. */
 public final class CoreTest extends Sentences {
-    private static final int LEAST = -2147483648;
-    private static final int LAST = 2147483647;
-    private static final int LAST_PAGE = 2147483584;
-
     public static void main(String[] args) {
         new CoreTest().run();
     }

@@ -2,10 +2,6 @@ import java.util.function.Consumer;
 
 /** The file byte by byte and the tape, promises 8 to 12. */
 public final class FileTest extends Sentences {
-    private static final int LEAST = -2147483648;
-    private static final int LAST = 2147483647;
-    private static final int LAST_PAGE = 2147483584;
-
     public static void main(String[] args) {
         new FileTest().run();
     }

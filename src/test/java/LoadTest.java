@@ -1,9 +1,5 @@
 /** What is WRONG with a tape's header and program headers, where it is told, and in which order. */
 public final class LoadTest extends Sentences {
-    private static final int LEAST = -2147483648;
-    private static final int LAST = 2147483647;
-    private static final int LAST_PAGE = 2147483584;
-
     // Of the tape that whole() makes: three program headers, two notes, two regions.
     private static final int NOTES_ENTRY = 52;
     private static final int FIRST_ENTRY = 84;
@@ -471,6 +467,15 @@ public final class LoadTest extends Sentences {
         wrong("round the notes", one.changeFour(FIRST_ENTRY + WHERE, 158), 4, FIRST_ENTRY + WHERE);
         wrong("the notes' last byte", one.changeFour(FIRST_ENTRY + WHERE, 199), 4, FIRST_ENTRY + WHERE);
         right("just behind the notes", one.changeFour(FIRST_ENTRY + WHERE, 200), 1);
+        for (int place = 116; place < 180; place++) {
+            wrong("notes of one byte at " + place, regionBehindHeaders(place), 4, FIRST_ENTRY + WHERE);
+        }
+        // Apart from the region it is told later, as too few bytes for a note.
+        wrong("notes of one byte at 180", regionBehindHeaders(180), 6, 180);
+    }
+
+    private static Bytes regionBehindHeaders(int noteByte) {
+        return new Bytes().header(2).notesEntry(noteByte, 1).regionEntry(116, 0, 64, 64, 0).zeros(65);
     }
 
     private void commonWithNone() {

@@ -1,8 +1,5 @@
 /** What is WRONG with a tape's notes, and promises 13 and 14: what a load answers, leaves and tells. */
 public final class NotesTest extends Sentences {
-    private static final int LEAST = -2147483648;
-    private static final int LAST = 2147483647;
-
     // Of the tape that notesOf() begins, which has one program header.
     private static final int FIRST = 84;
     private static final int SECOND = 140;
@@ -278,6 +275,7 @@ public final class NotesTest extends Sentences {
         sentence("Promise 13: the tape is read (it stays)", this::loadLeavesTheTape);
         sentence("Promise 13: where the bytes are may be any place, in any order, with gaps", this::loadAnyPlaces);
         sentence("Promise 13: bytes behind the file may be any", this::loadBytesBehind);
+        sentence("Promise 13: bytes behind the program headers are no program header more", this::loadNoHeaderMore);
         sentence("Promise 13: if it is WRONG, the core stays, whatever was wrong", this::loadWrongCoreStays);
         sentence("Promise 13: if it is WRONG, there is no core where there was none", this::loadWrongNoCore);
         sentence("Promise 13: a core is neither the tape nor the process", this::loadIsACopy);
@@ -389,26 +387,37 @@ public final class NotesTest extends Sentences {
         desk.right(0);
     }
 
-    /** Behind busy, the tape has two regions and a thread; each of these spoils it in one way. */
+    private void loadNoHeaderMore() {
+        Desk desk = desk();
+        Bytes b = new Bytes().header(2).notesEntry(244, 0).regionEntry(180, 64, 64, 64, 1);
+        desk.tape(b.regionEntry(180, 1024, 64, 64, 2).zeros(32).one(7).zeros(63));
+        desk.right(1);
+        desk.core(0).is(1);
+        desk.peek(64).is(7);
+        desk.flags(1024).none();
+        desk.peek(1024).none();
+    }
+
+    /** Behind loaded, the tape has two regions and a thread; each of these spoils it in one way. */
     private void loadWrongCoreStays() {
         int[][] spoilt = {{0, 1, 2, 0}, {44, 8, 2, 44}, {44, 7, 3, 56}, {56, 0, 3, 56}, {112, 63, 3, 112},
             {88, 150, 4, 88}, {89, 255, 1, 88}, {120, 0, 4, 120}, {124, 64, 5, 124}, {148, 4, 6, 148},
             {152, 40, 6, 152}, {160, 0, 6, 160}};
         for (int[] change : spoilt) {
             unchangedByLoad("byte " + change[0] + " is " + change[1], desk -> {
-                busy(desk);
+                loaded(desk);
                 desk.put(change[0], change[1]).yes();
             }, change[2], change[3]);
         }
         int[][] cuts = {{0, 1, 0}, {51, 1, 51}, {52, 1, 52}, {147, 1, 147}, {203, 1, 56}, {267, 1, 88}, {395, 1, 120}};
         for (int[] cut : cuts) {
             unchangedByLoad("cut to " + cut[0], desk -> {
-                busy(desk);
+                loaded(desk);
                 desk.cut(cut[0]).yes();
             }, cut[1], cut[2]);
         }
         unchangedByLoad("the last of three notes", desk -> {
-            busy(desk);
+            loaded(desk);
             desk.thread(8).is(2);
             desk.unmap(64).yes();
             desk.unmap(192).yes();
@@ -416,6 +425,17 @@ public final class NotesTest extends Sentences {
             desk.copy().is(252);
             desk.putFour(196 + ID, 5);
         }, 6, 196 + ID);
+        Desk desk = desk("asked for the core");
+        busy(desk);
+        desk.core(0).is(2);
+        desk.core(1).is(1);
+        desk.peek(64).is(200);
+        desk.peek(319).is(9);
+        desk.flags(192).is(5);
+        desk.register(0, 7).is(64);
+        desk.register(1, 0).thrown();
+        desk.find(1000, 0).is(68);
+        desk.caller(0, 0).is(1000);
     }
 
     private void loadWrongNoCore() {

@@ -1,8 +1,5 @@
 /** The process, promises 1 to 7: what can be in it and what can't, and that a refused call changes nothing. */
 public final class ProcessTest extends Sentences {
-    private static final int LEAST = -2147483648;
-    private static final int LAST = 2147483647;
-    private static final int LAST_PAGE = 2147483584;
     private static final int EMPTY_FILE = 84;
 
     public static void main(String[] args) {

@@ -4,6 +4,10 @@ import java.util.function.Function;
 
 /** Tests by the document's sentences: each has a test of its own, named by the sentence's words. */
 abstract class Sentences {
+    static final int LEAST = -2147483648;
+    static final int LAST = 2147483647;
+    static final int LAST_PAGE = 2147483584;
+
     final Due due = new Due();
 
     abstract void tests();
@@ -32,8 +36,8 @@ abstract class Sentences {
         return new Desk(due, name);
     }
 
-    /** Two regions and two threads; its process, file, tape, core and error all differ from one another. */
-    static void busy(Desk desk) {
+    /** Two regions and two threads; its process, file, tape and core all differ from one another. */
+    static void loaded(Desk desk) {
         desk.map(64, 1, 3).yes();
         desk.map(192, 2, 5).yes();
         desk.pokeFour(64, 200).yes();
@@ -48,10 +52,15 @@ abstract class Sentences {
         desk.dump().is(452);
         desk.set(1, 7, 192).yes();
         desk.poke(127, 255).yes();
+        desk.put(332, 202).yes();
+    }
+
+    /** The same behind a load that was wrong, of a tape that has been mended since. */
+    static void busy(Desk desk) {
+        loaded(desk);
         desk.put(16, 5).yes();
         desk.wrong(2, 16);
         desk.put(16, 4).yes();
-        desk.put(332, 202).yes();
     }
 
     /** The call answers as is due, and all that can be seen of the desk is as it was before. */
