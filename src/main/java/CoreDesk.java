@@ -502,6 +502,7 @@ public final class CoreDesk {
         }
     }
 
+    /** Threads in the order in which they came; the registers of those to come are 0. */
     private static final class ThreadTable {
         private final int[] ids;
         private final int[] values;
@@ -519,6 +520,7 @@ public final class CoreDesk {
 
         void clear() {
             count = 0;
+            Arrays.fill(values, 0);
         }
 
         boolean has(int t) {
@@ -540,9 +542,6 @@ public final class CoreDesk {
             }
             ids[count] = id;
             count++;
-            for (int r = 0; r < REGISTERS; r++) {
-                write(count - 1, r, 0);
-            }
             return count - 1;
         }
 

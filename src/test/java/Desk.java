@@ -23,6 +23,10 @@ final class Desk {
         return desk;
     }
 
+    int left() {
+        return PROMISED_CALLS - calls;
+    }
+
     private Answer answer(long value, String method, int... arguments) {
         StringBuilder call = new StringBuilder(name).append(method).append('(');
         for (int i = 0; i < arguments.length; i++) {

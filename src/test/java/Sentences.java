@@ -1,4 +1,6 @@
+import java.util.EnumSet;
 import java.util.List;
+import java.util.Set;
 import java.util.function.Consumer;
 import java.util.function.Function;
 
@@ -65,20 +67,36 @@ abstract class Sentences {
 
     /** The call answers as is due, and all that can be seen of the desk is as it was before. */
     final void unchanged(Consumer<Desk> story, Function<Desk, Answer> call, long answer) {
+        changed(story, call, answer, EnumSet.noneOf(View.Part.class));
+    }
+
+    /** The call answers as is due, changes these parts of the desk, and nothing of the others. */
+    final void changed(Consumer<Desk> story, Function<Desk, Answer> call, long answer, Set<View.Part> parts) {
         Desk desk = desk();
         story.accept(desk);
         Answer got = call.apply(desk);
         got.is(answer);
-        sameViews("after " + got.call(), View.of(due, story), View.of(due, story.andThen(call::apply)));
+        sameButFor(parts, "after " + got.call(), story, story.andThen(call::apply));
     }
 
-    /** Like unchanged, for loads that throw: what error answers is as it must be, all else as it was. */
+    /** Loads that throw: what error answers is as it must be, all else as it was. */
     final void unchangedByLoad(String name, Consumer<Desk> story, int kind, int place) {
         Desk desk = desk(name);
         story.accept(desk);
         desk.wrong(kind, place);
-        List<String> want = View.withoutErrors(due, story);
-        sameViews(name + ", load()", View.withoutErrors(due, story.andThen(Desk::load)), want);
+        sameButFor(EnumSet.of(View.Part.ERRORS), name + ", load()", story, story.andThen(Desk::load));
+    }
+
+    private void sameButFor(Set<View.Part> parts, String what, Consumer<Desk> before, Consumer<Desk> after) {
+        for (View.Part part : View.Part.values()) {
+            List<String> want = View.of(due, before, part);
+            List<String> got = View.of(due, after, part);
+            if (parts.contains(part)) {
+                due.no(what + ", " + part + " is as it was", got.equals(want));
+            } else {
+                sameViews(what + ", " + part, got, want);
+            }
+        }
     }
 
     private void sameViews(String what, List<String> got, List<String> want) {

@@ -8,41 +8,33 @@ import java.util.function.Consumer;
  * fewer than BYTES bytes; its regions are below address ADDRESSES or the last page.
  */
 final class View {
-    private static final int BYTES = 500;
+    private static final int BYTES = 600;
     private static final int ADDRESSES = 500;
-    private static final int STRIDE = 250;
+    private static final int STRIDE = 200;
     private static final int LAST_PAGE = 2147483584;
 
     private final Due due;
     private final Consumer<Desk> story;
     private final List<String> answers = new ArrayList<>();
 
+    /** What there is in an object, each apart from the others. */
+    enum Part { ERRORS, CORE, FILE, TAPE, PROCESS }
+
     private View(Due due, Consumer<Desk> story) {
         this.due = due;
         this.story = story;
     }
 
-    static List<String> of(Due due, Consumer<Desk> story) {
+    static List<String> of(Due due, Consumer<Desk> story, Part part) {
         View view = new View(due, story);
-        view.errors(view.desk());
-        view.allButErrors();
+        switch (part) {
+            case ERRORS -> view.errors(view.desk());
+            case CORE -> view.core(false);
+            case FILE -> view.file(false);
+            case TAPE -> view.tape();
+            default -> view.process();
+        }
         return view.answers;
-    }
-
-    static List<String> withoutErrors(Due due, Consumer<Desk> story) {
-        View view = new View(due, story);
-        view.allButErrors();
-        return view.answers;
-    }
-
-    private void allButErrors() {
-        core(false);
-        file(false);
-        tapeLength();
-        errors(loaded());
-        core(true);
-        file(true);
-        note(desk().thread(123456789));
     }
 
     private Desk desk() {
@@ -51,7 +43,18 @@ final class View {
         return desk;
     }
 
-    /** The tape can be seen only by reading it. */
+    /** The tape can be seen only by reading it, or by its length. */
+    private void tape() {
+        tapeLength();
+        errors(loaded());
+        core(true);
+    }
+
+    private void process() {
+        file(true);
+        note(desk().thread(123456789));
+    }
+
     private Desk loaded() {
         Desk desk = desk();
         note(desk.load());
